@@ -17,7 +17,8 @@ public final class SendAllTest {
         Map<String, String> before = Snapshot.of(x);
         Check.due("sendAll()", x.sendAll(), 5);
         Check.changed("sendAll()", before, x, "PENDING=0", "SENT=5", "pending offsets=",
-            "sf1.SND_NXT=2", "sf1.SND_HIGH=2", "sf1.CHANNEL=2", "sf1.segments=(0 0 4)(1 4 4)", "sf1.records=(0 0 4)(1 4 4)",
+            "sf1.SND_NXT=2", "sf1.SND_HIGH=2", "sf1.CHANNEL=2", "sf1.segments=(0 0 4)(1 4 4)",
+            "sf1.records=(0 0 4)(1 4 4)",
             "sf2.SND_NXT=2", "sf2.SND_HIGH=2", "sf2.CHANNEL=2", "sf2.segments=(0 8 4)(1 12 4)",
             "sf2.records=(0 8 4)(1 12 4)",
             "sf0.SND_NXT=1", "sf0.SND_HIGH=1", "sf0.CHANNEL=1", "sf0.segments=(0 16 4)", "sf0.records=(0 16 4)");
