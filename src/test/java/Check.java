@@ -5,15 +5,40 @@ import java.util.TreeMap;
 final class Check {
     private static int looked = 0;
     private static int wrong = 0;
+    private static int told = 0;
+    private static String under = "";
+
+    // A law that is broken is broken thousands of times in the rows of calls: a few say enough.
+    private static final int TOLD_OF_EACH = 20;
 
     private Check() {
+    }
+
+    /** One sentence of the document and the test of its own: what is not as due is told under the sentence. */
+    static void sentence(String text, Runnable test) {
+        under = "\"" + text + "\": ";
+        told = 0;
+        int before = looked;
+        // A throw would hide the tests of the sentences after this one.
+        try {
+            test.run();
+        } catch (RuntimeException thrown) {
+            due("a throw", thrown.toString(), "none");
+        }
+        holds("its test looks at something", looked > before);
+        under = "";
+        told = 0;
     }
 
     static void due(String what, Object got, Object want) {
         looked++;
         if (!got.equals(want)) {
             wrong++;
-            System.out.println(what + ": got " + got + ", due is " + want);
+            told++;
+            if (told > TOLD_OF_EACH) {
+                return;
+            }
+            System.out.println(under + what + ": got " + got + ", due is " + want);
         }
     }
 

@@ -21,15 +21,13 @@ public final class DeliverTest {
         MultipathStream x = Make.written(8, 1, 1, 1);
         x.send(0);
         x.fail(2);
-        Map<String, String> before = Snapshot.of(x);
         for (int sf : Make.NO_SUBFLOWS) {
-            Check.due("deliver(" + sf + ")", x.deliver(sf), MultipathStream.R_BAD_SUBFLOW);
+            Refused.deliver(x, sf, MultipathStream.R_BAD_SUBFLOW);
         }
-        Check.due("deliver(1)", x.deliver(1), MultipathStream.R_EMPTY);
-        Check.due("deliver(2) when failed", x.deliver(2), MultipathStream.R_EMPTY);
-        Check.unchanged("a refused deliver", before, x);
+        Refused.deliver(x, 1, MultipathStream.R_EMPTY);
+        Refused.deliver(x, 2, MultipathStream.R_EMPTY);
         x.deliver(0);
-        Check.due("deliver(0) once more", x.deliver(0), MultipathStream.R_EMPTY);
+        Refused.deliver(x, 0, MultipathStream.R_EMPTY);
     }
 
     private static void deliversInOrder() {

@@ -7,19 +7,18 @@ public final class DropTest {
         x.send(0);
         x.send(0);
         x.send(1);
-        Map<String, String> before = Snapshot.of(x);
         for (int sf : Make.NO_SUBFLOWS) {
-            Check.due("drop(" + sf + ")", x.drop(sf), false);
+            Refused.drop(x, sf);
         }
-        Check.due("drop(2) when empty", x.drop(2), false);
-        Check.unchanged("a refused drop", before, x);
+        Refused.drop(x, 2);
 
+        Map<String, String> before = Snapshot.of(x);
         Check.due("drop(0)", x.drop(0), true);
         Check.changed("drop(0)", before, x, "sf0.CHANNEL=1", "sf0.segments=(1 4 3)");
         before = Snapshot.of(x);
         Check.due("drop(0) of the last", x.drop(0), true);
         Check.changed("drop(0) of the last", before, x, "sf0.CHANNEL=0", "sf0.segments=");
-        Check.due("drop(0) when empty again", x.drop(0), false);
+        Refused.drop(x, 0);
 
         onAFailedSubflow();
         fromAFullChannel();

@@ -6,13 +6,12 @@ public final class DuplicateTest {
         MultipathStream x = Make.written(7, 1, 2, 3);
         x.send(0);
         x.send(0);
-        Map<String, String> before = Snapshot.of(x);
         for (int sf : Make.NO_SUBFLOWS) {
-            Check.due("duplicate(" + sf + ")", x.duplicate(sf), false);
+            Refused.duplicate(x, sf);
         }
-        Check.due("duplicate(2) when empty", x.duplicate(2), false);
-        Check.unchanged("a refused duplicate", before, x);
+        Refused.duplicate(x, 2);
 
+        Map<String, String> before = Snapshot.of(x);
         Check.due("duplicate(0)", x.duplicate(0), true);
         Check.changed("duplicate(0)", before, x, "sf0.CHANNEL=3", "sf0.segments=(0 0 4)(1 4 3)(0 0 4)");
         Make.duplicate(x, 0, 4);
@@ -20,9 +19,7 @@ public final class DuplicateTest {
         Check.due("duplicate(0) of seven", x.duplicate(0), true);
         Check.changed("duplicate(0) of seven", before, x, "sf0.CHANNEL=8",
             "sf0.segments=(0 0 4)(1 4 3)(0 0 4)(0 0 4)(0 0 4)(0 0 4)(0 0 4)(0 0 4)");
-        before = Snapshot.of(x);
-        Check.due("duplicate(0) when full", x.duplicate(0), false);
-        Check.unchanged("duplicate(0) when full", before, x);
+        Refused.duplicate(x, 0);
 
         onAFailedSubflow();
         Check.end();

@@ -5,7 +5,7 @@ public final class QueriesTest {
     private static final int[] EXTREMES = {Integer.MIN_VALUE, -256, -1, 3, 8, 9, 256, Integer.MAX_VALUE};
 
     public static void main(String[] args) {
-        MultipathStream x = manySidedState();
+        MultipathStream x = Make.manySided();
         Map<String, String> before = Snapshot.of(x);
         subflow(x);
         segment(x);
@@ -14,25 +14,6 @@ public final class QueriesTest {
         offset(x);
         Check.unchanged("no query", before, x);
         Check.end();
-    }
-
-    /** Subflow 0 has failed with a segment on its way, 1 has one acknowledged and held, 2 timed out. */
-    private static MultipathStream manySidedState() {
-        MultipathStream x = new MultipathStream(20, 1, 2, 3);
-        Make.write(x, 4);
-        x.send(0);
-        x.deliver(0);
-        Make.write(x, 16);
-        x.send(0);
-        x.send(1);
-        x.send(1);
-        x.deliver(1);
-        x.send(2);
-        x.timeout(2);
-        Make.duplicate(x, 2, 1);
-        x.fail(0);
-        x.write(-1);
-        return x;
     }
 
     private static void row(String what, int[] got, int... want) {

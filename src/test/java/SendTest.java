@@ -15,12 +15,6 @@ public final class SendTest {
         Check.end();
     }
 
-    private static void refused(MultipathStream x, int sf, int answer) {
-        Map<String, String> before = Snapshot.of(x);
-        Check.due("send(" + sf + ")", x.send(sf), answer);
-        Check.unchanged("a refused send", before, x);
-    }
-
     private static void makesNewSegments() {
         MultipathStream x = Make.written(6, 1, 2, 3);
         Map<String, String> before = Snapshot.of(x);
@@ -81,7 +75,7 @@ public final class SendTest {
     private static void refusesWrongSubflows() {
         MultipathStream x = Make.written(6, 1, 1, 1);
         for (int sf : Make.NO_SUBFLOWS) {
-            refused(x, sf, MultipathStream.R_BAD_SUBFLOW);
+            Refused.send(x, sf, MultipathStream.R_BAD_SUBFLOW);
         }
     }
 
@@ -89,38 +83,38 @@ public final class SendTest {
         MultipathStream x = Make.written(32, 1, 1, 1);
         x.send(0);
         x.send(0);
-        refused(x, 0, MultipathStream.R_WINDOW);
+        Refused.send(x, 0, MultipathStream.R_WINDOW);
         Make.duplicate(x, 0, 6);
-        refused(x, 0, MultipathStream.R_WINDOW);
+        Refused.send(x, 0, MultipathStream.R_WINDOW);
         x.timeout(0);
-        refused(x, 0, MultipathStream.R_CHANNEL_FULL);
+        Refused.send(x, 0, MultipathStream.R_CHANNEL_FULL);
         x.drop(0);
         Check.due("a retransmission with room for one", x.send(0), 4);
-        refused(x, 0, MultipathStream.R_WINDOW);
+        Refused.send(x, 0, MultipathStream.R_WINDOW);
         x.fail(0);
-        refused(x, 0, MultipathStream.R_FAILED);
+        Refused.send(x, 0, MultipathStream.R_FAILED);
 
         MultipathStream y = Make.written(4, 1, 1, 1);
         y.send(2);
         Make.duplicate(y, 2, 7);
-        refused(y, 2, MultipathStream.R_CHANNEL_FULL);
+        Refused.send(y, 2, MultipathStream.R_CHANNEL_FULL);
         y.fail(2);
         y.fail(1);
         y.fail(0);
-        refused(y, 0, MultipathStream.R_FAILED);
-        refused(y, 2, MultipathStream.R_FAILED);
+        Refused.send(y, 0, MultipathStream.R_FAILED);
+        Refused.send(y, 2, MultipathStream.R_FAILED);
     }
 
     private static void refusesWithNothingToSend() {
         MultipathStream x = new MultipathStream(32, 1, 1, 1);
-        refused(x, 0, MultipathStream.R_NOTHING);
+        Refused.send(x, 0, MultipathStream.R_NOTHING);
         Make.write(x, 5);
         x.send(0);
         x.send(0);
-        refused(x, 0, MultipathStream.R_WINDOW);
-        refused(x, 1, MultipathStream.R_NOTHING);
+        Refused.send(x, 0, MultipathStream.R_WINDOW);
+        Refused.send(x, 1, MultipathStream.R_NOTHING);
         x.deliver(0);
-        refused(x, 0, MultipathStream.R_NOTHING);
+        Refused.send(x, 0, MultipathStream.R_NOTHING);
         x.timeout(0);
         Check.due("a retransmission needs nothing pending", x.send(0), 1);
     }
@@ -135,9 +129,9 @@ public final class SendTest {
         for (int k = 0; k < 8; k++) {
             Check.due("send(1) " + k, x.send(1), 4);
         }
-        refused(x, 1, MultipathStream.R_WINDOW);
+        Refused.send(x, 1, MultipathStream.R_WINDOW);
         x.drop(1);
-        refused(x, 1, MultipathStream.R_WINDOW);
+        Refused.send(x, 1, MultipathStream.R_WINDOW);
         Check.due("sndHigh", x.subflow(1, MultipathStream.F_SND_HIGH), 68);
         Check.due("sndUna", x.subflow(1, MultipathStream.F_SND_UNA), 60);
         for (int ssn = 60; ssn < 68; ssn++) {
@@ -155,11 +149,11 @@ public final class SendTest {
         Make.write(x, 16);
         x.send(0);
         Check.due("the second send of two", x.send(0), 4);
-        refused(x, 0, MultipathStream.R_WINDOW);
+        Refused.send(x, 0, MultipathStream.R_WINDOW);
         x.deliver(0);
         Check.due("cwnd after an ACK", x.subflow(0, MultipathStream.F_CWND), 830);
         x.send(0);
         Check.due("the third of three", x.send(0), 4);
-        refused(x, 0, MultipathStream.R_WINDOW);
+        Refused.send(x, 0, MultipathStream.R_WINDOW);
     }
 }

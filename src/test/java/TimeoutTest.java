@@ -16,15 +16,13 @@ public final class TimeoutTest {
         x.send(0);
         x.send(1);
         x.fail(1);
-        Map<String, String> before = Snapshot.of(x);
         for (int sf : Make.NO_SUBFLOWS) {
-            Check.due("timeout(" + sf + ")", x.timeout(sf), false);
+            Refused.timeout(x, sf);
         }
-        Check.due("timeout(1) when failed", x.timeout(1), false);
-        Check.due("timeout(2) with nothing outstanding", x.timeout(2), false);
-        Check.unchanged("a refused timeout", before, x);
+        Refused.timeout(x, 1);
+        Refused.timeout(x, 2);
         x.deliver(0);
-        Check.due("timeout(0) with all acknowledged", x.timeout(0), false);
+        Refused.timeout(x, 0);
     }
 
     private static void goesBackAndHalves() {
@@ -43,7 +41,7 @@ public final class TimeoutTest {
         Check.changed("timeout(0) again", before, x, "sf0.CWND=256");
         Check.due("the retransmission", x.send(0), 4);
         Check.due("its ssn", x.segment(0, 3, MultipathStream.G_SSN), 3);
-        Check.due("the window is one", x.send(0), MultipathStream.R_WINDOW);
+        Refused.send(x, 0, MultipathStream.R_WINDOW);
     }
 
     private static void halvesDownToTheMinimum() {

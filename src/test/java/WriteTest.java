@@ -38,11 +38,9 @@ public final class WriteTest {
     private static void refusesWhenTheBufferIsFull() {
         MultipathStream x = new MultipathStream(8, 1, 1, 1);
         Make.write(x, 8);
-        Map<String, String> before = Snapshot.of(x);
-        Check.due("the ninth write", x.write(1), false);
-        Check.unchanged("the ninth write", before, x);
+        Refused.write(x, 1);
         x.sendAll();
-        Check.due("a write after sending", x.write(1), false);
+        Refused.write(x, 1);
     }
 
     private static void acknowledgementMakesRoom() {
@@ -51,10 +49,10 @@ public final class WriteTest {
         x.send(0);
         x.send(1);
         x.deliver(1);
-        Check.due("a write while bytes are only held", x.write(1), false);
+        Refused.write(x, 1);
         Check.due("deliver(0)", x.deliver(0), 8);
         Make.write(x, 8);
-        Check.due("a write past the new end", x.write(1), false);
+        Refused.write(x, 1);
         Check.due("written", x.conn(MultipathStream.C_WRITTEN), 17);
     }
 
@@ -62,14 +60,10 @@ public final class WriteTest {
         MultipathStream x = new MultipathStream(32, 1, 1, 1);
         Make.carry(x, 0, 255);
         Make.write(x, 1);
-        Map<String, String> before = Snapshot.of(x);
-        Check.due("write 257 with one byte in the buffer", x.write(1), false);
-        Check.unchanged("write 257", before, x);
+        Refused.write(x, 1);
         Check.due("the last send", x.send(0), 1);
         Check.due("the last deliver", x.deliver(0), 1);
-        before = Snapshot.of(x);
-        Check.due("write 257 with an empty buffer", x.write(1), false);
-        Check.unchanged("write 257 with an empty buffer", before, x);
+        Refused.write(x, 1);
         Check.due("the last byte delivered", x.offset(255, MultipathStream.O_DELIVERED), (255 + 10) & 255);
     }
 
