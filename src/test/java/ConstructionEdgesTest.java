@@ -208,9 +208,18 @@ public final class ConstructionEdgesTest {
         Map<String, String> before = Snapshot.of(used);
         MultipathStream second = new MultipathStream(20, 1, 2, 3);
         Check.due("an object made after another was used", Snapshot.of(second), fresh);
-        Make.write(second, 20);
-        second.sendAll();
-        second.deliver(0);
+        // Other bytes in other segments than the first object's, on every subflow.
+        for (int k = 0; k < 20; k++) {
+            second.write(200 - k);
+        }
+        int[] order = {2, 1, 0, 2, 1};
+        for (int sf : order) {
+            Make.send(second, sf, 4);
+        }
+        second.deliver(2);
+        second.timeout(1);
+        Make.fail(second, 1);
         Check.unchanged("another object's call", before, used);
+        Check.due("the other object's byte", second.offset(0, MultipathStream.O_DELIVERED), 200);
     }
 }

@@ -5,6 +5,7 @@ public final class DeliverEdgesTest {
     public static void main(String[] args) {
         Check.sentence("If sf is not 0..2, it answers R_BAD_SUBFLOW.", DeliverEdgesTest::badSubflow);
         Check.sentence("If the channel is empty, it answers R_EMPTY.", DeliverEdgesTest::emptyChannel);
+        Check.sentence("These answers change nothing.", DeliverEdgesTest::bothRefusalsInAManySidedState);
         Check.sentence("The head is removed from the channel.", DeliverEdgesTest::headOfOneAndOfEight);
         Check.sentence("If ssn != rcvNxt of sf, nothing else changes and the answer is 0. (ssn above)",
             DeliverEdgesTest::ssnAbove);
@@ -64,6 +65,16 @@ public final class DeliverEdgesTest {
             Make.fail(x, sf);
             Refused.deliver(x, sf, MultipathStream.R_EMPTY);
         }
+    }
+
+    private static void bothRefusalsInAManySidedState() {
+        MultipathStream x = Make.manySided();
+        Refused.deliver(x, 3, MultipathStream.R_BAD_SUBFLOW);
+        Refused.deliver(x, -1, MultipathStream.R_BAD_SUBFLOW);
+        x.drop(1);
+        Refused.deliver(x, 1, MultipathStream.R_EMPTY);
+        x.drop(0);
+        Refused.deliver(x, 0, MultipathStream.R_EMPTY);
     }
 
     private static void headOfOneAndOfEight() {

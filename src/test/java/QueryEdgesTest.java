@@ -22,6 +22,7 @@ public final class QueryEdgesTest {
         Check.sentence("or field is not one of the F_ constants", QueryEdgesTest::subflowField);
         Check.sentence("F_STATE: the state. (the first field)", QueryEdgesTest::subflowState);
         Check.sentence("F_CWND: cwnd, or 0 if failed.", QueryEdgesTest::subflowCwnd);
+        Check.sentence("F_RTT: rtt.", QueryEdgesTest::subflowRtt);
         Check.sentence("F_SND_UNA, F_SND_NXT, F_SND_HIGH, F_RCV_NXT: those counters.", QueryEdgesTest::subflowCounters);
         Check.sentence("F_CHANNEL: the number of segments in the channel. (the last field)",
             QueryEdgesTest::subflowChannel);
@@ -118,6 +119,17 @@ public final class QueryEdgesTest {
         Check.due("0 after a late arrival too", late.subflow(0, 1), 0);
         Check.due("the least", Make.steered("t").subflow(1, 1), 256);
         Check.due("the greatest", Make.steered("a".repeat(128)).subflow(1, 1), 4096);
+    }
+
+    private static void subflowRtt() {
+        for (int rtt = 1; rtt <= 4; rtt++) {
+            int other = 5 - rtt;
+            MultipathStream x = new MultipathStream(8, rtt, other, rtt);
+            Check.due("subflow(0, 2)", x.subflow(0, 2), rtt);
+            Check.due("subflow(1, 2)", x.subflow(1, 2), other);
+            Make.fail(x, 2);
+            Check.due("subflow(2, 2) when failed", x.subflow(2, 2), rtt);
+        }
     }
 
     private static void subflowCounters() {

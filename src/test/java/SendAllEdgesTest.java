@@ -19,6 +19,7 @@ public final class SendAllEdgesTest {
             SendAllEdgesTest::answersTheNumber);
         Check.sentence("Each of those sends has exactly the effects of Promise 3, so sent grows by the answer.",
             SendAllEdgesTest::sameAsSendsByHand);
+        Check.sentence("When the answer is 0, nothing changes.", SendAllEdgesTest::zeroChangesNothing);
         Check.end();
     }
 
@@ -193,6 +194,16 @@ public final class SendAllEdgesTest {
             Check.due("sent", x.conn(MultipathStream.C_SENT), due);
             Refused.sendAll(x);
         }
+    }
+
+    private static void zeroChangesNothing() {
+        MultipathStream x = Make.manySided();
+        Check.holds("sendAll() sends what it can", x.sendAll() > 0);
+        Refused.sendAll(x);
+        x.fail(1);
+        Refused.sendAll(x);
+        x.deliver(0);
+        Refused.sendAll(x);
     }
 
     /** The scheduler told by sends alone: a refused send changes nothing, so the next may simply be tried. */

@@ -35,6 +35,8 @@ public final class SendEdgesTest {
         Check.sentence("sndNxt and sndHigh each grow by 1", SendEdgesTest::countersGrow);
         Check.sentence("sent grows by 1", SendEdgesTest::sentCountsFar);
         Check.sentence("the answer is the segment's len (1..MSS)", SendEdgesTest::answersTheLength);
+        Check.sentence("Answers R_BAD_SUBFLOW, R_FAILED, R_WINDOW, R_CHANNEL_FULL and R_NOTHING change nothing.",
+            SendEdgesTest::everyRefusalInAManySidedState);
         Check.sentence("send never changes", SendEdgesTest::changesNothingElse);
         Check.end();
     }
@@ -409,6 +411,20 @@ public final class SendEdgesTest {
             x.deliver(0);
             x.drop(0);
         }
+    }
+
+    private static void everyRefusalInAManySidedState() {
+        MultipathStream x = Make.manySided();
+        Refused.send(x, 3, MultipathStream.R_BAD_SUBFLOW);
+        Refused.send(x, 0, MultipathStream.R_FAILED);
+        Make.send(x, 1, 4);
+        Refused.send(x, 1, MultipathStream.R_WINDOW);
+        Make.fillChannel(x, 2);
+        Refused.send(x, 2, MultipathStream.R_CHANNEL_FULL);
+        x.deliver(1);
+        Make.send(x, 1, 1);
+        x.deliver(1);
+        Refused.send(x, 1, MultipathStream.R_NOTHING);
     }
 
     private static void changesNothingElse() {
