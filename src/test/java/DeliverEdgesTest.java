@@ -3,6 +3,7 @@ import java.util.Map;
 /** Promise 5, deliver: a test for each sentence that names a boundary case, but for the coupled increase. */
 public final class DeliverEdgesTest {
     public static void main(String[] args) {
+        Check.sentence("makes the head segment (ssn, dsn, len) of channel sf arrive", DeliverEdgesTest::headArrives);
         Check.sentence("If sf is not 0..2, it answers R_BAD_SUBFLOW.", DeliverEdgesTest::badSubflow);
         Check.sentence("If the channel is empty, it answers R_EMPTY.", DeliverEdgesTest::emptyChannel);
         Check.sentence("These answers change nothing.", DeliverEdgesTest::bothRefusalsInAManySidedState);
@@ -22,8 +23,12 @@ public final class DeliverEdgesTest {
         Check.sentence("otherwise d becomes held with the stream byte at offset d",
             DeliverEdgesTest::bytesAreTheStreams);
         Check.sentence("While rcvDataNxt is held", DeliverEdgesTest::prefixStopsAtTheGap);
+        Check.sentence("it stops being held, is appended to the delivered stream, and rcvDataNxt grows by 1",
+            DeliverEdgesTest::eachHeldByteIsAppended);
         Check.sentence("and rcvDataNxt grows by 1 (up to MAX_STREAM)", DeliverEdgesTest::endOfTheStream);
         Check.sentence("on a failed subflow as well", DeliverEdgesTest::failedSubflowDelivers);
+        Check.sentence("Only if sf is established, the subflow ACK is processed",
+            DeliverEdgesTest::establishedSubflowHasItsAck);
         Check.sentence("On a failed subflow this step does nothing.", DeliverEdgesTest::failedSubflowHasNoAck);
         Check.sentence("sndUna becomes rcvNxt, and the record of the acknowledged ssn is dropped",
             DeliverEdgesTest::firstOfEightRecords);
@@ -36,6 +41,22 @@ public final class DeliverEdgesTest {
             DeliverEdgesTest::answers);
         Check.sentence("deliver never changes", DeliverEdgesTest::changesNothingElse);
         Check.end();
+    }
+
+    /** Each channel has another segment: what arrives is the one of the channel named. */
+    private static void headArrives() {
+        for (int sf = 0; sf < 3; sf++) {
+            MultipathStream x = Make.written(9, 1, 1, 1);
+            Make.send(x, 0, 4);
+            Make.send(x, 1, 4);
+            Make.send(x, 2, 1);
+            Check.due("deliver(" + sf + ")", x.deliver(sf), sf == 0 ? 4 : 0);
+            String[] held = {"", "4 5 6 7", "8"};
+            Check.due("held", Snapshot.of(x).get("held offsets"), held[sf]);
+            for (int other = 0; other < 3; other++) {
+                Check.due("rcvNxt of " + other, x.subflow(other, MultipathStream.F_RCV_NXT), other == sf ? 1 : 0);
+            }
+        }
     }
 
     private static void badSubflow() {
@@ -311,6 +332,23 @@ public final class DeliverEdgesTest {
         Check.due("held", x.conn(MultipathStream.C_HELD), 0);
     }
 
+    private static void eachHeldByteIsAppended() {
+        for (int n = 1; n <= 4; n++) {
+            MultipathStream x = Make.written(1, 1, 1, 1);
+            Make.send(x, 0, 1);
+            Make.write(x, n);
+            Make.send(x, 1, n);
+            x.deliver(1);
+            Check.due("held", x.conn(MultipathStream.C_HELD), n);
+            Check.due("deliver(0)", x.deliver(0), 1 + n);
+            Check.due("rcvDataNxt", x.conn(MultipathStream.C_DELIVERED), 1 + n);
+            for (int d = 0; d <= n; d++) {
+                Check.due("held " + d, x.offset(d, MultipathStream.O_HELD), 0);
+                Check.due("the byte at " + d, x.offset(d, MultipathStream.O_DELIVERED), d + 10);
+            }
+        }
+    }
+
     private static void endOfTheStream() {
         MultipathStream x = new MultipathStream(8, 1, 1, 1);
         Make.carry(x, 0, 248);
@@ -337,6 +375,22 @@ public final class DeliverEdgesTest {
             Check.due("deliver(" + sf + ") with all failed", x.deliver(sf), 4);
             Check.due("delivered", x.conn(MultipathStream.C_DELIVERED), 8);
         }
+    }
+
+    /** The ACK comes to every accepted segment, also to one whose bytes are held or discarded. */
+    private static void establishedSubflowHasItsAck() {
+        MultipathStream x = Make.written(8, 1, 1, 1);
+        Make.send(x, 0, 4);
+        Make.send(x, 1, 4);
+        Make.fail(x, 0);
+        Make.send(x, 2, 4);
+        Check.due("deliver(1) holds", x.deliver(1), 0);
+        Check.due("sndUna of 1", x.subflow(1, MultipathStream.F_SND_UNA), 1);
+        Check.due("deliver(0)", x.deliver(0), 8);
+        Check.due("sndUna of 0, which has failed,", x.subflow(0, MultipathStream.F_SND_UNA), 0);
+        Check.due("deliver(2) discards", x.deliver(2), 0);
+        Check.due("sndUna of 2", x.subflow(2, MultipathStream.F_SND_UNA), 1);
+        Check.due("discarded", x.conn(MultipathStream.C_DISCARDED), 4);
     }
 
     private static void failedSubflowHasNoAck() {

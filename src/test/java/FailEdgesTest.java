@@ -25,6 +25,7 @@ public final class FailEdgesTest {
         Check.sentence("Counters and the channel stay as they are.", FailEdgesTest::channelStays);
         Check.sentence("Segments still in the channel may arrive later, as described in Promise 5.",
             FailEdgesTest::segmentsArriveLater);
+        Check.sentence("The call answers true.", FailEdgesTest::answersTrue);
         Check.sentence("Failing the last established subflow is allowed.", FailEdgesTest::lastOne);
         Check.sentence("The stream, written, dataUna, rcvDataNxt, held offsets, sent, discarded and the other "
             + "subflows do not change.", FailEdgesTest::changesNothingElse);
@@ -195,6 +196,19 @@ public final class FailEdgesTest {
                 Check.due("state of " + j, x.subflow(j, MultipathStream.F_STATE), j == sf ? 2 : 1);
             }
             Check.due("established", x.conn(MultipathStream.C_ESTABLISHED), 2);
+        }
+    }
+
+    private static void answersTrue() {
+        int[][] orders = {{0, 1, 2}, {0, 2, 1}, {1, 0, 2}, {1, 2, 0}, {2, 0, 1}, {2, 1, 0}};
+        for (int[] order : orders) {
+            MultipathStream fresh = new MultipathStream(8, 1, 2, 3);
+            MultipathStream busy = Make.written(32, 1, 2, 3);
+            busy.sendAll();
+            for (int sf : order) {
+                Check.due("fail(" + sf + ")", fresh.fail(sf), true);
+                Check.due("fail(" + sf + ") with records", busy.fail(sf), true);
+            }
         }
     }
 

@@ -12,6 +12,8 @@ public final class IncreaseEdgesTest {
         Check.sentence("256 .. CWND_MAX while established (from CWND_MIN)", IncreaseEdgesTest::growsFromTheMinimum);
         Check.sentence("Over every established subflow j", IncreaseEdgesTest::failedOnesAreLeftOut);
         Check.sentence("Over every established subflow j (i alone)", IncreaseEdgesTest::alone);
+        Check.sentence("P_j = cwnd_j * 144 / (rtt_j * rtt_j)", IncreaseEdgesTest::squareOfTheRtt);
+        Check.sentence("Q_j = cwnd_j * 12 / rtt_j", IncreaseEdgesTest::rttItself);
         Check.sentence("Both divisions are exact.", IncreaseEdgesTest::everyRtt);
         Check.sentence("M is the greatest P_j", IncreaseEdgesTest::greatestAtEachPlace);
         Check.sentence("S is the sum of all Q_j", IncreaseEdgesTest::sumOfAll);
@@ -20,6 +22,8 @@ public final class IncreaseEdgesTest {
         Check.sentence("All arithmetic is 64-bit.", IncreaseEdgesTest::largeProducts);
         Check.sentence("raised to 1 if below 1", IncreaseEdgesTest::neverBelowOne);
         Check.sentence("then the coupled increase is applied once to sf", IncreaseEdgesTest::onceAndOnlyToSf);
+        Check.sentence("then the coupled increase is applied once to sf (in many rows of calls)",
+            IncreaseEdgesTest::everyAckOfManyRows);
         Check.end();
     }
 
@@ -105,6 +109,53 @@ public final class IncreaseEdgesTest {
             int due = due(x, sf);
             Make.carry(x, sf, 1);
             Check.due("cwnd of " + sf, cwnd(x, sf), due);
+        }
+    }
+
+    private static void firstAck(int rtt0, int rtt1, int rtt2, int cwnd) {
+        for (int sf = 0; sf < 3; sf++) {
+            MultipathStream x = Make.written(4, rtt0, rtt1, rtt2);
+            Make.send(x, sf, 4);
+            x.deliver(sf);
+            Check.due("rtt " + rtt0 + " " + rtt1 + " " + rtt2 + ", ACK on " + sf, cwnd(x, sf), cwnd);
+        }
+    }
+
+    private static void squareOfTheRtt() {
+        // a = 128 * (144 / r^2) / (12 / r + 6)^2: 56.9, 32, 20.5 and 14.2 for r = 1 to 4.
+        firstAck(1, 4, 4, 568);
+        firstAck(2, 4, 4, 544);
+        firstAck(3, 4, 4, 532);
+        firstAck(4, 4, 4, 526);
+    }
+
+    private static void rttItself() {
+        // a = 128 * 144 / (12 + 12 + 12 / r)^2: 14.2, 20.5, 23.5 and 25.3 for r = 1 to 4.
+        firstAck(1, 1, 1, 526);
+        firstAck(1, 1, 2, 532);
+        firstAck(1, 1, 3, 535);
+        firstAck(1, 1, 4, 537);
+    }
+
+    /** With losses, timeouts and failures between the ACKs; any other call but timeout and fail leaves cwnd alone. */
+    private static void everyAckOfManyRows() {
+        for (int number = 0; number < 100; number++) {
+            Calls calls = new Calls(number);
+            MultipathStream x = calls.fresh(new int[4]);
+            for (int k = 0; k < 700; k++) {
+                calls.next();
+                int sf = calls.call == Calls.SEND_ALL || calls.call == Calls.WRITE ? 0 : calls.argument;
+                int want = cwnd(x, sf);
+                boolean accepted = want > 0 && x.subflow(sf, MultipathStream.F_CHANNEL) > 0
+                    && x.segment(sf, 0, MultipathStream.G_SSN) == x.subflow(sf, MultipathStream.F_RCV_NXT);
+                if (calls.call == Calls.DELIVER && accepted) {
+                    want = due(x, sf);
+                }
+                calls.answer(x);
+                if (calls.call != Calls.TIMEOUT && calls.call != Calls.FAIL) {
+                    Check.due("row " + number + ", call " + k + ", " + calls.text() + ": cwnd", cwnd(x, sf), want);
+                }
+            }
         }
     }
 

@@ -3,6 +3,7 @@ import java.util.Map;
 /** Promise 3, send: a test for each sentence that names a boundary case. */
 public final class SendEdgesTest {
     public static void main(String[] args) {
+        Check.sentence("send(int sf) puts one segment into the channel of subflow sf.", SendEdgesTest::oneSegment);
         Check.sentence("If sf is not 0..2, it answers R_BAD_SUBFLOW.", SendEdgesTest::badSubflow);
         Check.sentence("If the subflow is failed, it answers R_FAILED.", SendEdgesTest::failed);
         Check.sentence("If sndNxt - sndUna >= window, it answers R_WINDOW.", SendEdgesTest::windowFull);
@@ -22,6 +23,7 @@ public final class SendEdgesTest {
             SendEdgesTest::shortRecordStaysShort);
         Check.sentence("a copy of the record (with bytes that are delivered already)",
             SendEdgesTest::deliveredRecordGoesOutWhole);
+        Check.sentence("sndNxt grows by 1 (and not sndHigh)", SendEdgesTest::retransmissionRaisesSndNxt);
         Check.sentence("pending flags do not change", SendEdgesTest::retransmissionLeavesPending);
         Check.sentence("dsn is the least pending offset", SendEdgesTest::leastPending);
         Check.sentence("len is the number of consecutive pending offsets starting at dsn, at most MSS",
@@ -39,6 +41,19 @@ public final class SendEdgesTest {
             SendEdgesTest::everyRefusalInAManySidedState);
         Check.sentence("send never changes", SendEdgesTest::changesNothingElse);
         Check.end();
+    }
+
+    private static void oneSegment() {
+        for (int sf = 0; sf < 3; sf++) {
+            MultipathStream x = Make.written(8, 1, 2, 3);
+            for (int size = 1; size <= 2; size++) {
+                Make.send(x, sf, 4);
+                for (int other = 0; other < 3; other++) {
+                    Check.due("segments on " + other + " after " + size + " sends on " + sf,
+                        x.subflow(other, MultipathStream.F_CHANNEL), other == sf ? size : 0);
+                }
+            }
+        }
     }
 
     private static void badSubflow() {
@@ -377,6 +392,19 @@ public final class SendEdgesTest {
             Check.due("the record", Snapshot.of(x).get("sf2.records"), Snapshot.mapping(ssn, dsn, len));
             Check.due("it arrives", x.deliver(2), len);
         }
+    }
+
+    private static void retransmissionRaisesSndNxt() {
+        MultipathStream x = Make.steered("a".repeat(30));
+        Make.write(x, 16);
+        Make.send(x, 1, 4, 4, 4, 4);
+        x.timeout(1);
+        for (int k = 0; k < 4; k++) {
+            Check.due("sndNxt", x.subflow(1, MultipathStream.F_SND_NXT), 30 + k);
+            Make.send(x, 1, 4);
+            Check.due("sndHigh", x.subflow(1, MultipathStream.F_SND_HIGH), 34);
+        }
+        Check.due("sndNxt", x.subflow(1, MultipathStream.F_SND_NXT), 34);
     }
 
     private static void countersGrow() {

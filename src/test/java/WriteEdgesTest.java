@@ -15,6 +15,7 @@ public final class WriteEdgesTest {
         Check.sentence("the byte is stored at offset written", WriteEdgesTest::firstAndLastOffset);
         Check.sentence("its pending flag is set", WriteEdgesTest::pendingAtBothEnds);
         Check.sentence("written grows by 1", WriteEdgesTest::writtenCounts);
+        Check.sentence("the call answers true", WriteEdgesTest::answersTrue);
         Check.sentence("No subflow, channel, counter, held offset or delivered byte changes.",
             WriteEdgesTest::changesNothingElse);
         Check.end();
@@ -166,6 +167,19 @@ public final class WriteEdgesTest {
             Make.carry(x, 0, 1);
         }
         Check.due("written", x.conn(MultipathStream.C_WRITTEN), 256);
+    }
+
+    /** Wherever there is room, whatever the subflows are. */
+    private static void answersTrue() {
+        Rows.afterEveryCall(step -> {
+            if (step.calls.call != Calls.WRITE) {
+                return true;
+            }
+            int written = step.x.conn(MultipathStream.C_WRITTEN) - step.answer;
+            int size = written - step.x.conn(MultipathStream.C_DATA_UNA);
+            boolean room = written < 256 && size < step.x.conn(MultipathStream.C_BUF_CAP);
+            return room == (step.answer == 1);
+        });
     }
 
     private static void changesNothingElse() {
