@@ -462,6 +462,16 @@ public final class DeliverEdgesTest {
         Check.due("sndUna", y.subflow(0, MultipathStream.F_SND_UNA), 1);
         Check.due("sndNxt at sndUna, behind sndHigh, stays", y.subflow(0, MultipathStream.F_SND_NXT), 1);
         Check.due("sndHigh", y.subflow(0, MultipathStream.F_SND_HIGH), 2);
+
+        MultipathStream z = Make.steered("a".repeat(30));
+        Make.write(z, 16);
+        Make.send(z, 1, 4, 4, 4, 4);
+        z.timeout(1);
+        Make.send(z, 1, 4, 4);
+        z.deliver(1);
+        Check.due("sndUna", z.subflow(1, MultipathStream.F_SND_UNA), 31);
+        Check.due("sndNxt between sndUna and sndHigh stays", z.subflow(1, MultipathStream.F_SND_NXT), 32);
+        Check.due("sndHigh", z.subflow(1, MultipathStream.F_SND_HIGH), 34);
     }
 
     private static void dataUnaFollows() {

@@ -11,6 +11,8 @@ public final class FailEdgesTest {
             FailEdgesTest::eightRecords);
         Check.sentence("For every record with sndUna <= ssn < sndHigh (not below sndUna)",
             FailEdgesTest::acknowledgedOnesAreLeftOut);
+        Check.sentence("For every record with sndUna <= ssn < sndHigh (not at sndHigh)",
+            FailEdgesTest::heldAndAcknowledged);
         Check.sentence("For every record with sndUna <= ssn < sndHigh (not only below sndNxt)",
             FailEdgesTest::beyondSndNxt);
         Check.sentence("with d >= dataUna becomes pending again (all of the record below)",
@@ -196,6 +198,23 @@ public final class FailEdgesTest {
                 Check.due("state of " + j, x.subflow(j, MultipathStream.F_STATE), j == sf ? 2 : 1);
             }
             Check.due("established", x.conn(MultipathStream.C_ESTABLISHED), 2);
+        }
+    }
+
+    /** Offsets 1 to n are acknowledged on subflow 0, and held: no old record brings one of them back. */
+    private static void heldAndAcknowledged() {
+        for (int n = 1; n <= 20; n++) {
+            MultipathStream x = Make.written(1, 1, 1, 1);
+            Make.send(x, 1, 1);
+            for (int k = 0; k < n; k++) {
+                Make.write(x, 1);
+                Make.send(x, 0, 1);
+                Check.due("deliver(0)", x.deliver(0), 0);
+            }
+            Make.write(x, 1);
+            Make.send(x, 0, 1);
+            Make.fail(x, 0);
+            Check.due("pending", Snapshot.of(x).get("pending offsets"), "" + (n + 1));
         }
     }
 

@@ -26,7 +26,7 @@ public final class NeverChangesTest {
     private static void write() {
         never("No subflow, channel, counter, held offset or delivered byte changes.", Calls.WRITE,
             "every", "SENT", "DISCARDED", "HELD", "held offsets", "DATA_UNA", "DELIVERED", "delivered bytes");
-        only("write: the byte is stored, its pending flag is set, written grows by 1", Calls.WRITE,
+        only("the byte is stored at offset written; its pending flag is set; written grows by 1", Calls.WRITE,
             "WRITTEN", "written bytes", "PENDING", "pending offsets");
     }
 
