@@ -10,13 +10,15 @@ final class Calls {
     static final int FAIL = 7;
     static final String[] NAMES = {"write", "send", "sendAll", "deliver", "drop", "duplicate", "timeout", "fail"};
 
-    // How often each call comes: long clean growth, much loss, many copies, quick failures.
+    // How often each call comes: long clean growth, much loss, many copies, quick failures, hardly any trouble,
+    // failures with full channels (so the same bytes come on two paths).
     private static final int[][] PROFILES = {
         {40, 20, 5, 30, 1, 1, 1, 0},
         {30, 15, 5, 25, 10, 5, 9, 1},
         {20, 10, 5, 20, 5, 30, 9, 1},
         {40, 15, 10, 25, 2, 3, 2, 3},
-        {30, 30, 0, 30, 0, 0, 1, 0}
+        {30, 30, 0, 30, 0, 0, 1, 0},
+        {35, 25, 5, 20, 0, 1, 2, 1}
     };
     private static final int[] WILD = {-1, 3, 4, 255, 256, Integer.MIN_VALUE, Integer.MAX_VALUE};
 

@@ -137,26 +137,24 @@ public final class IncreaseEdgesTest {
         firstAck(1, 1, 4, 537);
     }
 
-    /** With losses, timeouts and failures between the ACKs; any other call but timeout and fail leaves cwnd alone. */
+    /** With losses, timeouts and failures between the ACKs. */
     private static void everyAckOfManyRows() {
-        for (int number = 0; number < 100; number++) {
-            Calls calls = new Calls(number);
-            MultipathStream x = calls.fresh(new int[4]);
-            for (int k = 0; k < 700; k++) {
-                calls.next();
-                int sf = calls.call == Calls.SEND_ALL || calls.call == Calls.WRITE ? 0 : calls.argument;
-                int want = cwnd(x, sf);
-                boolean accepted = want > 0 && x.subflow(sf, MultipathStream.F_CHANNEL) > 0
-                    && x.segment(sf, 0, MultipathStream.G_SSN) == x.subflow(sf, MultipathStream.F_RCV_NXT);
-                if (calls.call == Calls.DELIVER && accepted) {
-                    want = due(x, sf);
-                }
-                calls.answer(x);
-                if (calls.call != Calls.TIMEOUT && calls.call != Calls.FAIL) {
-                    Check.due("row " + number + ", call " + k + ", " + calls.text() + ": cwnd", cwnd(x, sf), want);
-                }
+        Rows.foretold("cwnd", (x, calls) -> {
+            int sf = calls.argument;
+            int cwnd = cwnd(x, sf);
+            boolean outstanding = x.subflow(sf, MultipathStream.F_SND_HIGH) > x.subflow(sf, MultipathStream.F_SND_UNA);
+            boolean accepted = x.subflow(sf, MultipathStream.F_CHANNEL) > 0
+                && x.segment(sf, 0, MultipathStream.G_SSN) == x.subflow(sf, MultipathStream.F_RCV_NXT);
+            if (cwnd <= 0) {
+                return cwnd;
             }
-        }
+            switch (calls.call) {
+                case Calls.DELIVER: return accepted ? due(x, sf) : cwnd;
+                case Calls.TIMEOUT: return outstanding ? Math.max(256, cwnd / 2) : cwnd;
+                case Calls.FAIL: return 0;
+                default: return cwnd;
+            }
+        }, (x, calls) -> cwnd(x, calls.argument));
     }
 
     private static void everyRtt() {

@@ -49,6 +49,22 @@ final class Rows {
         }
     }
 
+    /** A value that every call must make what can be foretold before it. */
+    static void foretold(String what, BiFunction<MultipathStream, Calls, Integer> foretell,
+            BiFunction<MultipathStream, Calls, Integer> value) {
+        for (int number = 0; number < ROWS; number++) {
+            Calls calls = new Calls(number);
+            MultipathStream x = calls.fresh(new int[4]);
+            for (int k = 0; k < CALLS; k++) {
+                calls.next();
+                Integer due = foretell.apply(x, calls);
+                calls.answer(x);
+                Check.due(what + " after call " + k + " of row " + number + ", " + calls.text(),
+                    value.apply(x, calls), due);
+            }
+        }
+    }
+
     /** A law about each subflow. */
     static void onEverySubflow(BiFunction<MultipathStream, Integer, Boolean> law) {
         afterEveryCall(step -> law.apply(step.x, 0) && law.apply(step.x, 1) && law.apply(step.x, 2));

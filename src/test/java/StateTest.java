@@ -119,20 +119,12 @@ public final class StateTest {
 
     /** In many rows of calls: rcvNxt grows by 1 where the head had just that ssn, and else stays. */
     private static void onlyRcvNxtIsAccepted() {
-        for (int number = 0; number < 100; number++) {
-            Calls calls = new Calls(number);
-            MultipathStream x = calls.fresh(new int[4]);
-            for (int k = 0; k < 700; k++) {
-                calls.next();
-                int sf = calls.argument;
-                int before = x.subflow(sf, MultipathStream.F_RCV_NXT);
-                boolean accepted = calls.call == Calls.DELIVER && before >= 0
-                    && x.segment(sf, 0, MultipathStream.G_SSN) == before;
-                calls.answer(x);
-                Check.due("row " + number + ", call " + k + ", " + calls.text() + ": rcvNxt",
-                    x.subflow(sf, MultipathStream.F_RCV_NXT), accepted ? before + 1 : before);
-            }
-        }
+        Rows.foretold("rcvNxt", (x, calls) -> {
+            int rcvNxt = x.subflow(calls.argument, MultipathStream.F_RCV_NXT);
+            boolean accepted = calls.call == Calls.DELIVER && rcvNxt >= 0
+                && x.segment(calls.argument, 0, MultipathStream.G_SSN) == rcvNxt;
+            return accepted ? rcvNxt + 1 : rcvNxt;
+        }, (x, calls) -> x.subflow(calls.argument, MultipathStream.F_RCV_NXT));
     }
 
     private static void carriesItsBytes() {

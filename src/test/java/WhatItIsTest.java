@@ -221,23 +221,13 @@ public final class WhatItIsTest {
 
     /** In many rows of calls: discarded grows by just those bytes of an arriving segment, and by no other call. */
     private static void discardedPerByte() {
-        int grown = 0;
-        for (int number = 0; number < 200; number++) {
-            Calls calls = new Calls(number);
-            MultipathStream x = calls.fresh(new int[4]);
-            for (int k = 0; k < 700; k++) {
-                calls.next();
-                int due = x.conn(MultipathStream.C_DISCARDED);
-                if (calls.call == Calls.DELIVER) {
-                    due += useless(x, calls.argument);
-                }
-                grown += due - x.conn(MultipathStream.C_DISCARDED);
-                calls.answer(x);
-                Check.due("row " + number + ", call " + k + ", " + calls.text() + ": discarded",
-                    x.conn(MultipathStream.C_DISCARDED), due);
-            }
-        }
-        Check.holds("bytes are discarded in many of them: " + grown, grown > 100);
+        int[] grown = {0};
+        Rows.foretold("discarded", (x, calls) -> {
+            int more = calls.call == Calls.DELIVER ? useless(x, calls.argument) : 0;
+            grown[0] += more;
+            return x.conn(MultipathStream.C_DISCARDED) + more;
+        }, (x, calls) -> x.conn(MultipathStream.C_DISCARDED));
+        Check.holds("bytes are discarded in many of them: " + grown[0], grown[0] > 100);
     }
 
     /** How many bytes of the head of sf, if it is accepted, the receiver has no use for. */
